@@ -626,13 +626,10 @@ public final class BeadWords {
             return i < 0 || i >= size() ? NONE : readAt(rowOfPlan(i), placeOfPlan(i));
         }
 
-        /** A row more of so many beads, all 0 until they are put. */
+        /** A row more of so many beads, which are to be put. */
         void takeRow(int beadsOfIt) {
             width = beadsOfIt;
             rows++;
-            for (int c = 0; c < width; c++) {
-                put(rows - 1, c, 0);
-            }
         }
 
         void takeLine(int[] line, int beadsOfIt) {

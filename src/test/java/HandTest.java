@@ -124,6 +124,8 @@ public final class HandTest {
         CHECK.beads(x, 0, "cba");
         CHECK.beads(x, 1, "abc");
         CHECK.due("swap(1, 2)", x.swap(1, 2), 1);
+        CHECK.due("swap of first beads", CHECK.read("row ab;row bb;").swap(0, 1), 0);
+        CHECK.due("swap of last beads", CHECK.read("row ab;row aa;").swap(1, 0), 0);
         CHECK.due("swap(2, 2)", x.swap(2, 2), 1);
         CHECK.beads(x, 2, "abc");
         strand(x, 0);

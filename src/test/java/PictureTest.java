@@ -93,6 +93,10 @@ public final class PictureTest {
         CHECK.told(CHECK.read("row aabbaa;"), 0, 2, 2, 0, 1, 1);
         CHECK.told(CHECK.read("row ababab;"), 0, 3, 3, 1, 0, 1, 1);
         CHECK.told(CHECK.read("row aaaa;"), 0, 2, 2, 0);
+        CHECK.told(CHECK.read("row aa;"), 0, 2, 1, 0);
+        // Lines that differ in their first bead alone, or in their last.
+        CHECK.told(CHECK.read("row abc;row bbc;"), 1, 4, 2, 1, 1, 2);
+        CHECK.told(CHECK.read("row abc;row abb;"), 1, 4, 1, 0, 2, 1);
         CHECK.told(CHECK.read("row a;"), 0, 4, 1, 0);
         CHECK.told(CHECK.read("row ab;"), 0, 4, 1, 0, 1, 1);
         // Row 0 alone has nothing ahead, though it is like a later one.

@@ -99,6 +99,11 @@ public final class TextTest {
         fault("fros;", 2, 0);
         fault("ro;", 2, 0);
         fault("frow;", 2, 0);
+        fault("bow a;", 2, 0);
+        fault("pro;", 2, 0);
+        fault("z;", 2, 0);
+        fault("{;", 1, 0);
+        fault("`;", 1, 0);
         fault("row a;;", 2, 6);
         fault("row g;", 3, 4);
         fault("row row;", 3, 4);
