@@ -3,9 +3,6 @@ import java.util.Random;
 /** Long runs of calls by a seed, each answer beside that of the model. */
 public final class ModelTest {
     private static final int RUNS = 4000, CALLS = 512;
-    private static final String[] NAMES = {"feed", "end", "text", "fault", "rule", "bead", "many", "row", "words", "word",
-        "tell", "tear", "spoken", "said", "add", "string", "off", "plan", "mistake", "paint", "dye", "change", "swap",
-        "mode", "draw", "keep", "back", "sheet", "lay", "run", "torn", "count"};
     private static final int[] EDGES = {-5, -4, -3, -2, -1, 5, 6, 7, 11, 12, 13, 15, 16, 17, 31, 32, 33, 39, 40, 41, 99,
         100, 127, 128, 255, 256, 300, 301, 65536, Integer.MAX_VALUE, Integer.MIN_VALUE};
     private static final String[] PIECES = {"row ", "row ", "row ", "fro;", "fro ;", ";", " ", "ab", "g", ".", "A", "rowab;",
@@ -39,7 +36,7 @@ public final class ModelTest {
                 case 3 -> aSheet();
                 case 4 -> ask(24, random.nextInt(), 1 + random.nextInt(12), 1 + random.nextInt(16), 1 + random.nextInt(6));
                 case 5 -> everything();
-                default -> ask(random.nextInt(NAMES.length), number(), number(), number(), number());
+                default -> ask(random.nextInt(Face.NAMES.length), number(), number(), number(), number());
             }
         }
     }
@@ -51,8 +48,8 @@ public final class ModelTest {
     private void ask(int which, int a, int b, int c, int d) {
         if (calls < CALLS) {
             calls++;
-            String call = name + ", call " + calls + ": " + NAMES[which] + "(" + a + ", " + b + ", " + c + ", " + d + ")";
-            CHECK.due(call, answer(which, a, b, c, d), model.call(which, a, b, c, d));
+            String call = name + ", call " + calls + ": " + Face.written(which, a, b, c, d);
+            CHECK.due(call, Face.ask(x, which, a, b, c, d), model.call(which, a, b, c, d));
         }
     }
 
@@ -161,42 +158,5 @@ public final class ModelTest {
         for (int i = 0; i < 12; i++) {
             ask(17, i, 0, 0, 0);
         }
-    }
-
-    private int answer(int which, int a, int b, int c, int d) {
-        return switch (which) {
-            case 0 -> x.feed(a);
-            case 1 -> x.end(a);
-            case 2 -> x.text();
-            case 3 -> x.fault();
-            case 4 -> x.rule(a);
-            case 5 -> x.bead(a, b);
-            case 6 -> x.many(a, b);
-            case 7 -> x.row(a, b);
-            case 8 -> x.words(a, b);
-            case 9 -> x.word(a, b);
-            case 10 -> x.tell(a);
-            case 11 -> x.tear();
-            case 12 -> x.spoken();
-            case 13 -> x.said(a);
-            case 14 -> x.add();
-            case 15 -> x.string(a);
-            case 16 -> x.off(a);
-            case 17 -> x.plan(a);
-            case 18 -> x.mistake(a);
-            case 19 -> x.paint(a, b, c);
-            case 20 -> x.dye(a, b);
-            case 21 -> x.change(a, b);
-            case 22 -> x.swap(a, b);
-            case 23 -> x.mode(a);
-            case 24 -> x.draw(a, b, c, d);
-            case 25 -> x.keep(a);
-            case 26 -> x.back(a);
-            case 27 -> x.sheet(a, b, c);
-            case 28 -> x.lay(a, b, c);
-            case 29 -> x.run(a, b, c, d);
-            case 30 -> x.torn();
-            default -> x.count(a);
-        };
     }
 }
