@@ -96,12 +96,20 @@ final class Edges {
     /** That two scripts lead to the same state, as far as calls can show it. */
     void same(String what, Script one, Script other) {
         for (int p = 0; p < PROBES.length; p++) {
-            Script probe = PROBES[p];
-            int[] want = shown(one, probe);
-            int[] got = shown(other, probe);
-            for (int i = 0; i < want.length; i++) {
-                check.due(what + " and then, by probe " + p + ", " + probe.written(i), got[i], want[i]);
-            }
+            alike(what, p, shown(other, PROBES[p]), shown(one, PROBES[p]));
+        }
+    }
+
+    /** That a script leads where the model says, as far as calls can show it. */
+    void asModelled(String what, Script script) {
+        for (int p = 0; p < PROBES.length; p++) {
+            alike(what, p, shown(script, PROBES[p]), PROBES[p].answers(script.modelled()));
+        }
+    }
+
+    private void alike(String what, int p, int[] got, int[] want) {
+        for (int i = 0; i < want.length; i++) {
+            check.due(what + " and then, by probe " + p + ", " + PROBES[p].written(i), got[i], want[i]);
         }
     }
 

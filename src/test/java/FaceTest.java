@@ -1,57 +1,121 @@
+import java.io.IOException;
 import java.lang.reflect.Constructor;
 import java.lang.reflect.Field;
+import java.lang.reflect.Member;
 import java.lang.reflect.Method;
 import java.lang.reflect.Modifier;
-import java.util.TreeMap;
+import java.lang.reflect.Parameter;
+import java.nio.file.Files;
+import java.nio.file.Path;
+import java.util.ArrayList;
+import java.util.List;
 
-/** The public face, and that no more of the class is to be seen. */
+/** The public face as the document prints it, and that no more of the class is to be seen; compiled with -parameters. */
 public final class FaceTest {
     private static final Check CHECK = new Check();
-    private static final String CALLS = "feed1 end1 text0 fault0 rule1 bead2 many2 row2 words2 word2 tell1 tear0 spoken0 "
-        + "said1 add0 string1 off1 plan1 mistake1 paint3 dye2 change2 swap2 mode1 draw4 keep1 back1 sheet3 lay3 run4 "
-        + "torn0 count1";
+    private static final Class<?> TESTED = BeadWords.class;
+    private static final String CONSTANTS = "public static final int ";
 
-    public static void main(String[] args) {
-        constants();
-        members();
+    public static void main(String[] args) throws IOException, IllegalAccessException {
+        List<String> printed = printed();
+        List<String> there = there();
+        CHECK.due("lines of the face that the document prints", printed.size(), 1 + 4 + 1 + 32);
+        for (String line : printed) {
+            CHECK.due("the class has: " + line, there.contains(line) ? 1 : 0, 1);
+        }
+        for (String line : there) {
+            CHECK.due("the document has: " + line, printed.contains(line) ? 1 : 0, 1);
+        }
+        callsByNumber(printed);
+        nothingAboveIt();
+        theRestIsPrivate();
         CHECK.end();
     }
 
-    private static void constants() {
-        CHECK.due("BAD", BeadWords.BAD, -1);
-        CHECK.due("STATE", BeadWords.STATE, -2);
-        CHECK.due("FULL", BeadWords.FULL, -3);
-        CHECK.due("NONE", BeadWords.NONE, -4);
-    }
-
-    private static void members() {
-        TreeMap<String, Integer> parameters = new TreeMap<>();
-        for (String call : CALLS.split(" ")) {
-            parameters.put(call.substring(0, call.length() - 1), call.charAt(call.length() - 1) - '0');
-        }
-        int calls = 0;
-        for (Method m : BeadWords.class.getDeclaredMethods()) {
-            boolean seen = Modifier.isPublic(m.getModifiers());
-            calls += seen ? 1 : 0;
-            CHECK.due(m + " is private or of the face", seen || Modifier.isPrivate(m.getModifiers()) ? 1 : 0, 1);
-            CHECK.due(m + " bears a name of the face", parameters.containsKey(m.getName()) ? 1 : 0, seen ? 1 : 0);
-            if (seen && parameters.containsKey(m.getName())) {
-                CHECK.due(m + " has parameters", m.getParameterCount(), parameters.get(m.getName()));
-                CHECK.due(m + " answers an int", m.getReturnType() == int.class ? 1 : 0, 1);
+    /** The face of the document, a line for each constant, the constructor, and each call, in its order. */
+    private static List<String> printed() throws IOException {
+        String doc = Files.readString(Path.of("../shared/DOC.md"));
+        String block = doc.substring(doc.indexOf("```java\n") + 8);
+        List<String> out = new ArrayList<>();
+        for (String line : block.substring(0, block.indexOf("```")).split("\n")) {
+            String one = line.strip();
+            if (one.startsWith(CONSTANTS)) {
+                for (String constant : one.substring(CONSTANTS.length(), one.length() - 1).split(", ")) {
+                    out.add(CONSTANTS + constant + ";");
+                }
+            } else if (!one.equals("}")) {
+                out.add(one);
             }
         }
-        CHECK.due("public calls", calls, parameters.size());
-        for (Field f : BeadWords.class.getDeclaredFields()) {
-            boolean face = "BAD STATE FULL NONE".contains(f.getName());
-            CHECK.due(f + " is public", Modifier.isPublic(f.getModifiers()) ? 1 : 0, face ? 1 : 0);
-            CHECK.due(f + " is private", Modifier.isPrivate(f.getModifiers()) ? 1 : 0, face ? 0 : 1);
+        return out;
+    }
+
+    /** The same of the class itself. */
+    private static List<String> there() throws IllegalAccessException {
+        List<String> out = new ArrayList<>();
+        out.add(Modifier.toString(TESTED.getModifiers()) + " class " + TESTED.getName() + " {");
+        for (Field f : TESTED.getDeclaredFields()) {
+            if (!Modifier.isPrivate(f.getModifiers())) {
+                out.add(head(f, f.getType()) + " " + f.getName() + " = " + f.get(null) + ";");
+            }
         }
-        Constructor<?>[] makers = BeadWords.class.getDeclaredConstructors();
-        CHECK.due("constructors", makers.length, 1);
-        CHECK.due("its parameters", makers[0].getParameterCount(), 0);
-        for (Class<?> inner : BeadWords.class.getDeclaredClasses()) {
+        for (Constructor<?> c : TESTED.getDeclaredConstructors()) {
+            out.add(Modifier.toString(c.getModifiers()) + " " + TESTED.getName() + listed(c.getParameters()) + ";");
+        }
+        for (Method m : TESTED.getDeclaredMethods()) {
+            if (!Modifier.isPrivate(m.getModifiers())) {
+                out.add(head(m, m.getReturnType()) + " " + m.getName() + listed(m.getParameters()) + ";");
+                CHECK.due(m + " declares exceptions", m.getExceptionTypes().length, 0);
+            }
+        }
+        return out;
+    }
+
+    private static String head(Member member, Class<?> type) {
+        return Modifier.toString(member.getModifiers()) + " " + type.getName();
+    }
+
+    private static String listed(Parameter[] parameters) {
+        List<String> out = new ArrayList<>();
+        for (Parameter p : parameters) {
+            out.add(p.getType().getName() + " " + p.getName());
+        }
+        return "(" + String.join(", ", out) + ")";
+    }
+
+    /** The other tests ask by these numbers: each call of the document must have one. */
+    private static void callsByNumber(List<String> printed) {
+        List<String> calls = printed.subList(printed.indexOf("public BeadWords();") + 1, printed.size());
+        CHECK.due("calls by number", Face.NAMES.length, calls.size());
+        for (int which = 0; which < Face.NAMES.length; which++) {
+            String call = calls.get(which);
+            CHECK.due(Face.NAMES[which] + " is " + call, call.startsWith("public int " + Face.NAMES[which] + "(") ? 1 : 0, 1);
+            CHECK.due("numbers given to " + call, Face.TAKES[which], call.split("int ").length - 2);
+        }
+    }
+
+    private static void nothingAboveIt() {
+        CHECK.due("the class is of another one", TESTED.getSuperclass() == Object.class ? 0 : 1, 0);
+        CHECK.due("interfaces", TESTED.getInterfaces().length, 0);
+        CHECK.due("the class has a package", TESTED.getPackageName().isEmpty() ? 0 : 1, 0);
+    }
+
+    private static void theRestIsPrivate() {
+        for (Class<?> inner : TESTED.getDeclaredClasses()) {
             CHECK.due(inner + " is static", Modifier.isStatic(inner.getModifiers()) ? 1 : 0, 1);
-            CHECK.due(inner + " is public", Modifier.isPublic(inner.getModifiers()) ? 1 : 0, 0);
+            CHECK.due(inner + " is seen", inner.getModifiers() & (Modifier.PUBLIC | Modifier.PROTECTED), 0);
+            bearsNoNameOfTheFace(inner);
+        }
+        for (Method m : TESTED.getDeclaredMethods()) {
+            if (Modifier.isPrivate(m.getModifiers())) {
+                CHECK.due(m + " bears a name of the face", List.of(Face.NAMES).contains(m.getName()) ? 1 : 0, 0);
+            }
+        }
+    }
+
+    private static void bearsNoNameOfTheFace(Class<?> inner) {
+        for (Method m : inner.getDeclaredMethods()) {
+            CHECK.due(m + " bears a name of the face", List.of(Face.NAMES).contains(m.getName()) ? 1 : 0, 0);
         }
     }
 }

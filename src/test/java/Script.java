@@ -95,10 +95,18 @@ final class Script {
 
     Model modelled() {
         Model model = new Model();
-        for (int[] c : calls) {
-            model.call(c[0], c[1], c[2], c[3], c[4]);
-        }
+        answers(model);
         return model;
+    }
+
+    /** What the model answers to them. */
+    int[] answers(Model model) {
+        int[] out = new int[calls.size()];
+        for (int i = 0; i < out.length; i++) {
+            int[] c = calls.get(i);
+            out[i] = model.call(c[0], c[1], c[2], c[3], c[4]);
+        }
+        return out;
     }
 
     /** Call i as it is written. */
